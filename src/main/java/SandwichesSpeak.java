@@ -94,7 +94,7 @@ public final class SandwichesSpeak {
     if (!isIn(kind, 0, KINDS - 1) || !isIn(number, 0, NUMBERS - 1)) {
       return BAD;
     }
-    return family.size < PEOPLE_MOST ? family.takeIn(kind, number) : FULL;
+    return family.takeIn(kind, number);
   }
 
   public int told(int of, int what) {
@@ -648,7 +648,7 @@ public final class SandwichesSpeak {
       leftOut = other.leftOut;
     }
 
-    /** One more, for whom there must be room: the number. */
+    /** One more: the number, or FULL. */
     int takeIn(int kind, int number) {
       if (size >= PEOPLE_MOST) {
         return FULL;

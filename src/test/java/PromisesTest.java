@@ -109,6 +109,8 @@ public final class PromisesTest {
     due("set sunday", x.set(0, 0, -1), -1000);
     due("set sunday", x.set(0, 0, 1000), -1000);
     due("set sunday kept", x.told(0, 0), 5);
+    due("set sunday", x.set(0, 0, 0), 5);
+    due("set sunday kept", x.told(0, 0), 0);
     for (int l = 0; l < 8; l++) {
       due("set layer", x.set(1, l, 0), 1);
       due("set layer", x.set(1, l, 0), 0);
@@ -126,6 +128,8 @@ public final class PromisesTest {
     }
     x.person(0, 4);
     x.person(0, 6);
+    due("set 4", x.set(4, 0, 0), -1000);
+    due("set -1", x.set(-1, 0, 0), -1000);
     due("set number", x.set(2, 1, 9), 6);
     due("set number", x.set(2, 1, 0), 9);
     due("set number", x.set(2, 0, 10), -1000);
@@ -140,6 +144,7 @@ public final class PromisesTest {
     due("set mood", x.set(3, 2, 0), -1000);
     due("mood kept", x.told(1, 3), -20);
     due("mood kept", x.told(0, 3), 0);
+    due("number kept", x.told(1, 2), 0);
   }
 
   private static void person() {
@@ -383,6 +388,17 @@ public final class PromisesTest {
     for (int i = 0; i < 6; i++) {
       due("force", x.force(i), Math.max(0, i - 1));
     }
+    // faults leave nothing behind, however many there were
+    x = new SandwichesSpeak();
+    for (int i = 0; i < 20; i++) {
+      due("a long fault", fed(x, "cuts (1" + "+1".repeat(70)).text(), -100 - 147);
+    }
+    fed(x, "cuts layer=2;feels 6+1;sends 1;");
+    due("text", x.text(), 1);
+    x.force(1);
+    cousins(x, 0, 0);
+    due("by the text", x.sandwich(0, 1, 0), 4);
+    due("by the text", x.sandwich(0, 1, 3), 7);
   }
 
   private static void force() {
@@ -474,7 +490,11 @@ public final class PromisesTest {
   }
 
   private static void feels(int kind, int number, int... due) {
-    SandwichesSpeak x = ruled("cuts layer<5;feels layer*8-24;sends 1;");
+    feelsOf("layer*8-24", kind, number, due);
+  }
+
+  private static void feelsOf(String e, int kind, int number, int... due) {
+    SandwichesSpeak x = ruled("cuts layer<5;feels " + e + ";sends 1;");
     x.person(0, 0);
     x.person(kind, number);
     int sum = 0;
@@ -493,6 +513,8 @@ public final class PromisesTest {
     feels(4, 3, -13, -13, -11, -3, 5, 7, 7, 7);
     feels(4, 0, -10, -10, -8, 0, 8, 10, 10, 10);
     feels(5, 3, -20, -16, -8, 0, 0, 0, 0, 0);
+    feelsOf("layer+1", 5, 3, 1, 2, 3, 4, 0, 0, 0, 0);
+    feelsOf("3-layer", 1, 3, 3, 2, 1, 0, -1, -1, -1, -1);
     // an inlaw would feel -20 (for -32): half of it, and 9 less
     SandwichesSpeak x = ruled("cuts 1;feels -16;sends 1;");
     x.person(0, 0);
@@ -576,6 +598,7 @@ public final class PromisesTest {
     due("run", x.run(40, 0), -12);
     due("run", x.run(40, 1), 78);
     due("run", x.run(40, 11), -6);
+    due("run", x.run(1, 10), -6);
     due("run", x.run(0, 11), 0);
     due("run in thought", x.count(2), 0);
     due("run in thought", x.all(0), 0);
@@ -611,6 +634,9 @@ public final class PromisesTest {
     againOf(cousins(ruled("cuts layer=0;feels -2*mood;sends 1;"), 3, 3), 2, 2, -1);
     againOf(cousins(ruled("cuts layer=0;feels 1;sends 1;"), -20, -20), -1, -1, -1);
     againOf(cousins(ruled("cuts layer=0;feels 1;sends 1;"), -19, -19), 40, 1, 39);
+    // of 0 each Sunday 1 more, of 1 from 20 to -20 at once: all moods count, each for itself
+    SandwichesSpeak x = ruled("cuts layer<2;feels (to=0)*(layer=0)-20*to;sends 1;");
+    againOf(cousins(x, 0, 20), 21, 1, 20);
     // each mood goes up by 1 from -2 till 3, then back to 1: 6 moods, a round of 3
     againOf(cousins(ruled("cuts layer=0;feels 1-3*(mood=3);sends 1;"), -2, -2), 6, 3, -1);
   }
@@ -731,6 +757,9 @@ public final class PromisesTest {
     x = cousins(ruled("cuts 1;feels layer;sends 0;"), 0, 0);
     due("add, not sent", x.add(0, 1, 0), 7);
     due("add, not sent", x.add(0, 1, 1), 7);
+    x = cousins(ruled("cuts 0;feels 8-layer;sends 1;"), 0, 0);
+    due("add, layer 0", x.add(0, 1, 0), 0);
+    due("add, layer 0", x.add(0, 1, 1), 8);
     // below the bound by more than a layer makes good
     x = cousins(ruled("cuts layer<2;feels -20+30*(1<layer);sends 1;"), -10, -10);
     due("add, below the bound", x.add(0, 1, 0), -1);
