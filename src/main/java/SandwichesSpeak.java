@@ -15,7 +15,7 @@ public final class SandwichesSpeak {
   private static final int SHEETS = 4, SHEET_MOST = 40, TOLD_MOST = 10;
   private static final int AHEAD_MOST = 40, BEST_MOST = 10, DRAWN_AHEAD = 5;
   private static final int SEEDS_MOST = 20, CHANCE_MOST = 100, NO_MOOD = -100, NO_FAULT = -1;
-  private static final int FAULT_BASE = -100;
+  private static final int FAULT_BASE = -100, BELOW_ALL_GLAD = -PEOPLE_MOST * MOOD_MOST - 1;
 
   private static final int MOTHER = 1, INLAW = 2, GRANDMOTHER = 3, BROTHER = 4, CHILD = 5;
   /** The kind that each kind stands under; NONE above all. */
@@ -293,7 +293,7 @@ public final class SandwichesSpeak {
     if (!isPerson(one) || !isIn(n, 0, BEST_MOST) || !isIn(what, 0, 1)) {
       return REFUSED;
     }
-    int most = Integer.MIN_VALUE;
+    int most = BELOW_ALL_GLAD;
     int bestMood = NO_MOOD;
     for (int mood = -MOOD_MOST; mood <= MOOD_MOST; mood++) {
       thought.becomeLike(family);

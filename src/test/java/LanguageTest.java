@@ -20,6 +20,7 @@ public final class LanguageTest {
       + " leaveOut people person run sandwich set sheet spare sunday taken tells text told";
   private static final String NEVER = "throw|throws|try|catch|synchronized|assert|package|import|volatile|native"
       + "|Object|Thread|Random|Exception|Error|hashCode|equals|toString|protected|var|->|::";
+  private static final Set<String> LIBRARY = Set.of("Math.max", "Math.min", "Integer.bitCount", "System.arraycopy");
   private static int wrong = 0;
 
   public static void main(String[] args) throws Exception {
@@ -93,6 +94,10 @@ public final class LanguageTest {
       need(false, "there is: " + never.group());
     }
     need(!Pattern.compile("static\\s*\\{").matcher(bare).find(), "a static block");
+    Matcher library = Pattern.compile("(?<![\\w.])(Integer|Long|Math|System|Arrays|String|List)\\.\\w+").matcher(bare);
+    while (library.find()) {
+      need(LIBRARY.contains(library.group()), "there is: " + library.group());
+    }
     int begun = -1;
     String[] lines = bare.split("\n");
     for (int i = 0; i < lines.length; i++) {

@@ -1,12 +1,5 @@
 /** For each promise of the document, answers that were reckoned by hand from its words. */
-public final class PromisesTest {
-  private static final String TAIL = "feels 1;sends 1;";
-  private static final long NO = -4611686018427387904L;
-  private static final int LEAST = Integer.MIN_VALUE, MOST = Integer.MAX_VALUE;
-
-  private static int wrong = 0;
-  private static int asked = 0;
-
+public final class PromisesTest extends Check {
   public static void main(String[] args) {
     aNewObject();
     set();
@@ -43,40 +36,7 @@ public final class PromisesTest {
     copy();
     people();
     taken();
-    System.out.println("PromisesTest: " + asked + " answers, " + wrong + " wrong");
-    System.exit(wrong == 0 ? 0 : 1);
-  }
-
-  private static void due(String call, long got, long want) {
-    asked++;
-    if (got != want) {
-      wrong++;
-      System.out.println(call + " answered " + got + ", due is " + want);
-    }
-  }
-
-  private static SandwichesSpeak fed(SandwichesSpeak x, String text) {
-    for (int i = 0; i < text.length(); i++) {
-      x.feed(text.charAt(i));
-    }
-    return x;
-  }
-
-  /** Whose rule is this text. */
-  private static SandwichesSpeak ruled(String text) {
-    SandwichesSpeak x = fed(new SandwichesSpeak(), text);
-    due("text() of " + text, x.text(), 1);
-    due("force(1)", x.force(1), 0);
-    return x;
-  }
-
-  /** So many cousins, with moods. */
-  private static SandwichesSpeak cousins(SandwichesSpeak x, int... moods) {
-    for (int i = 0; i < moods.length; i++) {
-      due("person(0, 0)", x.person(0, 0), i);
-      due("set(3, ..)", x.set(3, i, moods[i]), 0);
-    }
-    return x;
+    end("PromisesTest");
   }
 
   private static void aNewObject() {
@@ -390,7 +350,7 @@ public final class PromisesTest {
     }
     // faults leave nothing behind, however many there were
     x = new SandwichesSpeak();
-    for (int i = 0; i < 20; i++) {
+    for (int i = 0; i < 3; i++) {
       due("a long fault", fed(x, "cuts (1" + "+1".repeat(70)).text(), -100 - 147);
     }
     fed(x, "cuts layer=2;feels 6+1;sends 1;");
