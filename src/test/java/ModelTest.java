@@ -2,7 +2,7 @@ import java.util.Random;
 
 /** Long runs of drawn calls on the class and on the model: all answers must be alike. */
 public final class ModelTest {
-  private static final int RUNS = 400, CALLS = 512;
+  private static final int RUNS = 1000, CALLS = 512;
   private static final int[] EDGES = {Integer.MIN_VALUE, Integer.MIN_VALUE + 1, -1001, -21, -2, -1, 41,
       161, 256, 1000, Integer.MAX_VALUE - 1, Integer.MAX_VALUE};
   private static final String[] PIECES = {"cuts", "feels", "sends", "or", "and", "not", "layer", "mood",
@@ -54,6 +54,10 @@ public final class ModelTest {
     }
     while (calls < CALLS && wrong == 0) {
       one();
+      if (calls < CALLS) {
+        int what = calls % 6;
+        same("count " + what, x.count(what), y.count(what));
+      }
     }
   }
 
@@ -248,15 +252,12 @@ public final class ModelTest {
         break;
       }
     }
-    a = calls % 6;
-    same("count " + a, x.count(a), y.count(a));
   }
 
   private void feed(String text) {
-    for (int i = 0; i < text.length(); i++) {
+    for (int i = 0; i < text.length() && calls < CALLS; i++) {
       int a = text.charAt(i);
       same("feed " + a, x.feed(a), y.feed(a));
-      calls--;
     }
   }
 
