@@ -16,6 +16,7 @@ public final class EdgesTest extends Check {
     tokensAsLongAsCanBe();
     fiveOpen();
     sixTexts();
+    nothingStaysOfFaults();
     wrapping();
     truths();
     sundayAtOnce();
@@ -363,6 +364,18 @@ public final class EdgesTest extends Check {
       due("by the rule", x.sandwich(0, 1, 3), i);
     }
     tell(x, "force 6: -2; force -1: -2; count 5: 1; force 0: 1; sandwich 0 1 0: 7; sandwich 0 1 3: -6");
+  }
+
+  /** Of a text with a fault nothing stays: neither in the text that comes next, nor in those that are. */
+  private static void nothingStaysOfFaults() {
+    String[] faults = {"cuts not not not not 1;feels", "cuts ----1;feels", "cuts 1;feels 2;sends 3", "cuts 7;feels 7;sends 7;;"};
+    for (String fault : faults) {
+      SandwichesSpeak x = cousins(new SandwichesSpeak(), 0, 0);
+      due("a fault", fed(x, fault).text() <= -100 ? 1 : 0, 1);
+      tell(x, "count 4: 0; count 3: 1; count 5: 0; force 1: -2; sandwich 0 1 0: 7; sandwich 0 1 3: -6");
+      due("a text behind " + fault, fed(x, "cuts 1;feels 1;sends 1;").text(), 1);
+      tell(x, "force 1: 0; sandwich 0 1 2: 1; sandwich 0 1 0: 255; sandwich 0 1 3: 8; force 0: 1; sandwich 0 1 0: 7");
+    }
   }
 
   private static void value(String e, int due) {
