@@ -222,6 +222,14 @@ public final class EdgesTest extends Check {
     tell(x, "text: -259; count 3: 1; text: -100");
     x = fed(new SandwichesSpeak(), " ".repeat(160));
     tell(x, "text: -260");
+    // whatever token is the last byte's, a word that is cut off being none
+    for (String end : new String[] {"cuts", "cuts 1", "cuts 9999", "cuts mood", "cuts (", "cuts not", "cuts 1;", "cuts -", "cuts 1="}) {
+      textIs(" ".repeat(160 - end.length()) + end, -260);
+    }
+    for (String end : new String[] {"c", "cut", "l", "laye", "moo", "numbe", "their", "fro", "t", "feel", "send", "o", "an", "no", "#"}) {
+      textIs(" ".repeat(160 - end.length()) + end, -260 + end.length());
+      textIs("cuts" + " ".repeat(156 - end.length()) + end, -260 + end.length());
+    }
     // as many tokens as have room: all of them count
     for (int sum = 68; sum <= 69; sum++) {
       x = fed(new SandwichesSpeak(), "cuts 1" + "+1".repeat(67) + "=" + sum + ";feels 7;sends 1;");
@@ -285,6 +293,11 @@ public final class EdgesTest extends Check {
     textIs("cuts notmood;" + TAIL, -105);
     textIs("cuts moodor 1;" + TAIL, -105);
     textIs("cuts moods;" + TAIL, -105);
+    textIs("cuts numbermood;" + TAIL, -105);
+    textIs("cuts theirsx;" + TAIL, -105);
+    textIs("cuts number mood;" + TAIL, -112);
+    textIs("cuts " + "z".repeat(155), -105);
+    textIs("cuts " + "7".repeat(155), -105);
     textIs("cuts moo;" + TAIL, -105);
     textIs("cutslayer;" + TAIL, -100);
     textIs("cuts1;feels1;sends1;", 1);
@@ -572,6 +585,10 @@ public final class EdgesTest extends Check {
     // what a mother puts in herself
     x = make(ruled("cuts 0;feels -3;sends 1;"), "person 1 7; person 0 0");
     tell(x, "run 1 0: -3; spare 1 0: 7; spare 1 1: 0");
+    // a layer that isn't used is no choice, though with it all would feel better
+    x = cousins(ruled("cuts 1;feels (layer=6)-2*(layer=2);sends 1;"), 0, 0);
+    tell(x, "set 1 6 0: 1; run 1 0: -4; spare 1 0: 2; spare 1 1: 0; set 1 2 0: 1; spare 1 0: -1; spare 1 1: 0");
+    x = make(ruled("cuts 0;feels -3;sends 1;"), "person 1 7; person 0 0");
     // none is used
     for (int layer = 0; layer < 8; layer++) {
       x.set(1, layer, 0);
@@ -606,6 +623,12 @@ public final class EdgesTest extends Check {
     // all others' come as they would
     x = cousins(ruled("cuts layer=0;feels from+layer;sends 1;"), 0, 0, 3);
     tell(x, "add 0 2 0: 7; add 0 2 1: 11; add 1 2 0: 7; add 1 2 1: 12; add 2 0 1: 12");
+    // felt by moods as they are ahead of it: 0 is in 5 then, and in 2 behind it
+    x = cousins(ruled("cuts layer=0;feels theirs*(layer=1)-3*(layer=0);sends 1;"), 5, 3);
+    tell(x, "add 0 1 0: 1; add 0 1 1: 5; run 1 10: 2; run 1 11: 0");
+    // and cut by them: behind it 0 would cut layer 1 by itself
+    x = cousins(ruled("cuts layer<mood;feels 1;sends 1;"), 1, 2);
+    tell(x, "run 1 10: 3; run 1 11: 3; add 0 1 0: 1; add 0 1 1: 4; add 1 0 0: 2; add 1 0 1: 4");
   }
 
   private static void lettuceAndLeft() {
